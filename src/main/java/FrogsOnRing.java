@@ -1,6 +1,6 @@
 import java.util.Arrays;
 
-/** Frogs on stones in a ring, a row or a tree; the document's promises are told by number in README.md. */
+/** Frogs on stones in a ring, a row or a tree: their moves, orders, games and children. README.md says how to use it. */
 public final class FrogsOnRing {
     public static final int NONE = -1, UNKNOWN = -101, OUTSIDE = -102, STATE = -103, FULL = -104;
 
@@ -30,6 +30,7 @@ public final class FrogsOnRing {
     private final Page page;
     private final Reading reading;
     private final Pond pond;
+    private final Moves moves;
     private final Numbering numbering;
     private final Search search;
     private final Ending ending;
@@ -45,10 +46,11 @@ public final class FrogsOnRing {
         page = new Page();
         reading = new Reading();
         pond = new Pond();
+        moves = new Moves(pond);
         numbering = new Numbering();
-        search = new Search(pond, numbering);
-        ending = new Ending(pond, numbering, search);
-        chance = new Chance(pond, numbering, search);
+        search = new Search(pond, moves, numbering);
+        ending = new Ending(pond, moves, numbering, search);
+        chance = new Chance(pond, moves, numbering, search);
         now = new Course();
         kept = new Course();
     }
@@ -136,14 +138,16 @@ public final class FrogsOnRing {
         if (!isStone(from) || !isStone(to)) {
             return UNKNOWN;
         }
-        return pond.isMove(now.order, from, to) ? 1 : 0;
+        moves.find(now.order);
+        return moves.has(from, to) ? 1 : 0;
     }
 
     public int move(int from, int to) {
         if (!isStone(from) || !isStone(to)) {
             return UNKNOWN;
         }
-        if (!pond.isMove(now.order, from, to)) {
+        moves.find(now.order);
+        if (!moves.has(from, to)) {
             return STATE;
         }
         if (now.made >= MOST_MADE) {
@@ -165,7 +169,8 @@ public final class FrogsOnRing {
         if (noStones()) {
             return STATE;
         }
-        return pond.movesOf(now.order);
+        moves.find(now.order);
+        return moves.total();
     }
 
     public int nth(int i) {
@@ -175,7 +180,8 @@ public final class FrogsOnRing {
         if (i < 0 || i > LAST_NTH) {
             return OUTSIDE;
         }
-        return pond.moveNumber(now.order, i);
+        moves.find(now.order);
+        return moves.told(i);
     }
 
     // ---- other orders
@@ -367,9 +373,10 @@ public final class FrogsOnRing {
 
     private long withMoves(long before) {
         long h = before;
+        moves.find(now.order);
         for (int from = 0; from < pond.size; from++) {
             for (int to = 0; to < pond.size; to++) {
-                if (pond.isMove(now.order, from, to)) {
+                if (moves.has(from, to)) {
                     h = 31 * h + FROM_WEIGHT * from + to;
                 }
             }
@@ -475,6 +482,12 @@ public final class FrogsOnRing {
             product *= base;
         }
         return product;
+    }
+
+    private static void fillFirst(int[] row, int many, int number) {
+        for (int i = 0; i < many && i < row.length; i++) {
+            row[i] = number;
+        }
     }
 
     private static int greatestShared(int one, int other) {
@@ -613,7 +626,7 @@ public final class FrogsOnRing {
         }
     }
 
-    /** How the STONES lie, and which MOVES an order has on them. */
+    /** How the STONES lie. ON is BACK turned round, so what is BACK of each stone tells all of it. */
     private static final class Pond {
         final int[] behinds = new int[MOST_STONES];
         final int[] depths = new int[MOST_STONES];
@@ -627,72 +640,112 @@ public final class FrogsOnRing {
             isRing = reading.form == 'r';
             overOthers = reading.overOthers;
             longestLeap = reading.overTwo ? 3 : 2;
+            behinds[0] = isRing ? size - 1 : NONE;
+            depths[0] = 0;
+            // The parent of stone 1 stands behind the last stone and the "/".
             int parents = reading.first + size;
-            for (int stone = 0; stone < size && stone < MOST_STONES; stone++) {
-                int ahead = stone - 1;
-                if (stone == 0) {
-                    ahead = isRing ? size - 1 : NONE;
-                } else if (reading.form == 't') {
-                    ahead = page.letterAt(parents + stone) - '0';
-                }
+            for (int stone = 1; stone < size && stone < MOST_STONES; stone++) {
+                int ahead = reading.form == 't' ? page.letterAt(parents + stone) - '0' : stone - 1;
                 behinds[stone] = ahead;
-                depths[stone] = stone == 0 ? 0 : depthOf(ahead) + 1;
+                depths[stone] = depthOf(ahead) + 1;
             }
         }
 
         int behind(int stone) {
-            return stone >= 0 && stone < size && stone < MOST_STONES ? behinds[stone] : NONE;
+            return stone >= 0 && stone < MOST_STONES ? behinds[stone] : NONE;
         }
 
         int depthOf(int stone) {
-            return stone >= 0 && stone < size && stone < MOST_STONES ? depths[stone] : 0;
+            return stone >= 0 && stone < MOST_STONES ? depths[stone] : 0;
         }
 
-        boolean isMove(int order, int from, int to) {
-            int kind = kindAt(order, from);
-            if (kind == NOBODY || kindAt(order, to) != NOBODY) {
-                return false;
-            }
-            return (goesOn(kind) && joins(order, to, from, kind))
-                || (goesBack(kind) && joins(order, from, to, kind));
+        int turned(int order, int k) {
+            int all = (1 << (2 * size)) - 1;
+            return ((order << (2 * k)) | (order >> (2 * (size - k)))) & all;
+        }
+    }
+
+    /** The MOVES of one order, those of the order found last. */
+    private static final class Moves {
+        final Pond pond;
+        // Bit "to" of targets[from] tells the move.
+        final int[] targets = new int[MOST_STONES];
+
+        Moves(Pond pond) {
+            this.pond = pond;
         }
 
-        // ON is BACK turned round, so one walk BACK from the far end tells both.
-        private boolean joins(int order, int far, int near, int kind) {
-            int at = far;
-            for (int leap = 1; leap <= longestLeap; leap++) {
-                at = behind(at);
-                if (at == near) {
-                    return true;
+        void find(int order) {
+            Arrays.fill(targets, 0);
+            for (int stone = 0; stone < pond.size; stone++) {
+                int kind = kindAt(order, stone);
+                if (kind == NOBODY) {
+                    findOnTo(order, stone);
+                } else if (goesBack(kind)) {
+                    findBackFrom(order, stone, kind);
                 }
-                if (at == NONE || !lets(kindAt(order, at), kind)) {
-                    return false;
+            }
+        }
+
+        private void findOnTo(int order, int to) {
+            int at = to;
+            int passed = 0;
+            for (int leap = 1; leap <= pond.longestLeap; leap++) {
+                at = pond.behind(at);
+                if (at < 0 || at >= MOST_STONES) {
+                    return;
+                }
+                int kind = kindAt(order, at);
+                if (kind == NOBODY) {
+                    return;
+                }
+                boolean overItsOwn = ((passed >> kind) & 1) != 0;
+                if (goesOn(kind) && !(pond.overOthers && overItsOwn)) {
+                    targets[at] |= 1 << to;
+                }
+                passed |= 1 << kind;
+            }
+        }
+
+        private void findBackFrom(int order, int from, int kind) {
+            int at = from;
+            for (int leap = 1; leap <= pond.longestLeap; leap++) {
+                at = pond.behind(at);
+                if (at < 0) {
+                    return;
+                }
+                int under = kindAt(order, at);
+                if (under == NOBODY) {
+                    targets[from] |= 1 << at;
+                    return;
+                }
+                if (pond.overOthers && under == kind) {
+                    return;
                 }
             }
-            return false;
         }
 
-        private boolean lets(int under, int leaping) {
-            return under != NOBODY && !(overOthers && under == leaping);
+        int targetsOf(int from) {
+            return from >= 0 && from < MOST_STONES ? targets[from] : 0;
         }
 
-        int movesOf(int order) {
+        boolean has(int from, int to) {
+            return ((targetsOf(from) >> to) & 1) != 0;
+        }
+
+        int total() {
             int found = 0;
-            for (int from = 0; from < size; from++) {
-                for (int to = 0; to < size; to++) {
-                    if (isMove(order, from, to)) {
-                        found++;
-                    }
-                }
+            for (int from = 0; from < MOST_STONES; from++) {
+                found += Integer.bitCount(targets[from]);
             }
             return found;
         }
 
-        int moveNumber(int order, int number) {
+        int told(int number) {
             int passed = 0;
-            for (int from = 0; from < size; from++) {
-                for (int to = 0; to < size; to++) {
-                    if (isMove(order, from, to)) {
+            for (int from = 0; from < pond.size; from++) {
+                for (int to = 0; to < pond.size; to++) {
+                    if (has(from, to)) {
                         if (passed == number) {
                             return FROM_WEIGHT * from + to;
                         }
@@ -703,42 +756,39 @@ public final class FrogsOnRing {
             return NONE;
         }
 
-        int afterLeastMove(int order, int from) {
-            for (int to = 0; to < size; to++) {
-                if (isMove(order, from, to)) {
+        int afterLeastOf(int order, int from) {
+            for (int to = 0; to < pond.size; to++) {
+                if (has(from, to)) {
                     return afterMove(order, from, to);
                 }
             }
             return order;
         }
-
-        int turned(int order, int k) {
-            int all = (1 << (2 * size)) - 1;
-            return ((order << (2 * k)) | (order >> (2 * (size - k)))) & all;
-        }
     }
 
     /**
-     * Numbers all orders of the same frogs, without gaps. The first five stones leave a mixture of
-     * frogs for the others: an order's number is how many orders begin with lesser first stones,
-     * and how many lesser ways the others have to hold their mixture.
+     * Numbers all orders of the same frogs from 0, without gaps. The lower stones leave a mixture of
+     * frogs for the four highest ones: an order's number is how many orders have lesser lower stones,
+     * and how many lesser ways the highest ones have to hold their mixture.
      */
     private static final class Numbering {
-        static final int LOW_STONES = 5;
-        static final int LOWS = 1024;
+        static final int HIGH_STONES = 4;
         static final int HIGHS = 256;
-        static final int MOST_HIGH = 4;
+        static final int LOWS = 1024;
         static final int MIXTURES = 125;
 
         final int[] lowStarts = new int[LOWS];
         final int[] highNumbers = new int[HIGHS];
         final int[] mixtureSizes = new int[MIXTURES];
+        int lowBits;
+        int all;
 
         void prepare(int order, int stones) {
-            int low = Math.min(stones, LOW_STONES);
+            int high = Math.min(stones, HIGH_STONES);
+            lowBits = 2 * (stones - high);
             Arrays.fill(mixtureSizes, 0);
-            numberHighs(1 << (2 * (stones - low)));
-            numberLows(1 << (2 * low), order);
+            numberHighs(1 << (2 * high));
+            numberLows(1 << lowBits, order);
         }
 
         private void numberHighs(int highs) {
@@ -761,6 +811,7 @@ public final class FrogsOnRing {
                     begun += mixtureSizes[mixture];
                 }
             }
+            all = Math.min(begun, MOST_ORDERS);
         }
 
         // How many greens, browns and yellows, a byte each.
@@ -769,30 +820,41 @@ public final class FrogsOnRing {
             for (int stone = 0; stone < MOST_STONES; stone++) {
                 sum += 1 << (8 * kindAt(order, stone));
             }
-            return sum >>> 8;
+            // Nobody is counted in the lowest byte, and left out.
+            return sum >> 8;
         }
 
+        // No mixture has more frogs of a colour than there are highest stones, so each is one of five.
         private static int mixtureOf(int whole, int taken) {
             int mixture = 0;
             for (int shift = 0; shift <= 16; shift += 8) {
                 int left = ((whole >> shift) & 255) - ((taken >> shift) & 255);
-                if (left < 0 || left > MOST_HIGH) {
+                if (left < 0 || left > HIGH_STONES) {
                     return NONE;
                 }
-                mixture = mixture * (MOST_HIGH + 1) + left;
+                mixture = mixture * (HIGH_STONES + 1) + left;
             }
             return mixture;
         }
 
+        // NONE, or below the length of a row with a place for each order.
         int numberOf(int order) {
-            return lowStarts[order & (LOWS - 1)] + highNumbers[(order >> (2 * LOW_STONES)) & (HIGHS - 1)];
+            int low = order & ((1 << lowBits) - 1);
+            int high = order >> lowBits;
+            if (low < 0 || low >= LOWS || high < 0 || high >= HIGHS) {
+                return NONE;
+            }
+            int number = lowStarts[low] + highNumbers[high];
+            return number < all ? number : NONE;
         }
     }
 
     /** All orders that can be come to from one, by fewest moves; kept until another order is asked. */
     private static final class Search {
         final Pond pond;
+        final Moves moves;
         final Numbering numbering;
+        // The orders in the row in which they were met; all else by their numbers.
         final int[] orders = new int[MOST_ORDERS];
         final int[] steps = new int[MOST_ORDERS];
         final long[] rows = new long[MOST_ORDERS];
@@ -804,8 +866,9 @@ public final class FrogsOnRing {
         int stuck;
         int farthest;
 
-        Search(Pond pond, Numbering numbering) {
+        Search(Pond pond, Moves moves, Numbering numbering) {
             this.pond = pond;
+            this.moves = moves;
             this.numbering = numbering;
         }
 
@@ -817,11 +880,15 @@ public final class FrogsOnRing {
             if (stands && start == order) {
                 return;
             }
-            Arrays.fill(steps, NONE);
+            fillFirst(steps, numbering.all, NONE);
             reached = 0;
             stuck = 0;
             farthest = 0;
-            begin(order);
+            int here = numbering.numberOf(order);
+            if (here != NONE) {
+                meet(order, here, 0, NONE);
+                rows[here] = 1;
+            }
             for (int i = 0; i < reached && i < MOST_ORDERS; i++) {
                 goOnFrom(orders[i]);
             }
@@ -830,23 +897,14 @@ public final class FrogsOnRing {
             looks++;
         }
 
-        private void begin(int order) {
-            int here = numbering.numberOf(order);
-            if (isNumber(here)) {
-                meet(order, here, 0, NONE);
-                rows[here] = 1;
-            }
-        }
-
         private void goOnFrom(int order) {
             int here = numbering.numberOf(order);
-            if (!isNumber(here)) {
-                return;
-            }
+            moves.find(order);
             boolean moved = false;
             for (int from = 0; from < pond.size; from++) {
-                if (kindAt(order, from) != NOBODY) {
-                    moved |= goOnBy(order, here, from);
+                if (moves.targetsOf(from) != 0) {
+                    moved = true;
+                    goOnBy(order, here, from);
                 }
             }
             if (!moved) {
@@ -854,24 +912,21 @@ public final class FrogsOnRing {
             }
         }
 
-        private boolean goOnBy(int order, int here, int from) {
-            boolean moved = false;
+        private void goOnBy(int order, int here, int from) {
             for (int to = 0; to < pond.size; to++) {
-                if (pond.isMove(order, from, to)) {
-                    moved = true;
-                    int first = steps[here] == 0 ? FROM_WEIGHT * from + to : firsts[here];
-                    join(here, afterMove(order, from, to), first);
+                if (moves.has(from, to)) {
+                    join(here, afterMove(order, from, to), FROM_WEIGHT * from + to);
                 }
             }
-            return moved;
         }
 
-        private void join(int here, int next, int first) {
+        private void join(int here, int next, int move) {
             int there = numbering.numberOf(next);
-            if (!isNumber(there)) {
+            if (here == NONE || there == NONE) {
                 return;
             }
             int step = steps[here] + 1;
+            int first = step == 1 ? move : firsts[here];
             if (steps[there] == NONE) {
                 meet(next, there, step, first);
             }
@@ -893,23 +948,19 @@ public final class FrogsOnRing {
             farthest = step;
         }
 
-        private boolean isNumber(int number) {
-            return number >= 0 && number < MOST_ORDERS;
-        }
-
         int stepsTo(int order) {
             int number = numbering.numberOf(order);
-            return isNumber(number) ? steps[number] : NONE;
+            return number == NONE ? NONE : steps[number];
         }
 
         long waysTo(int order) {
             int number = numbering.numberOf(order);
-            return isNumber(number) && steps[number] != NONE ? rows[number] : 0;
+            return number == NONE || steps[number] == NONE ? 0 : rows[number];
         }
 
         int firstMoveTo(int order) {
             int number = numbering.numberOf(order);
-            return isNumber(number) && steps[number] != NONE ? firsts[number] : NONE;
+            return number == NONE || steps[number] == NONE ? NONE : firsts[number];
         }
 
         int unlikeOrders() {
@@ -922,6 +973,7 @@ public final class FrogsOnRing {
             return found;
         }
 
+        // Of orders that are alike just the least one that was come to counts.
         private boolean isLeastOfItsTurns(int order) {
             for (int k = 1; k < pond.size; k++) {
                 int other = pond.turned(order, k);
@@ -940,16 +992,19 @@ public final class FrogsOnRing {
         static final int LEVELS = 2 * MOST_GONE + 1;
 
         final Pond pond;
+        final Moves moves;
         final Numbering numbering;
         final Search search;
-        final int[] begins = new int[LEVELS + 1];
+        final int[] levelEnds = new int[LEVELS];
         final int[] sorted = new int[MOST_ENDING_ORDERS];
         final int[] mosts = new int[MOST_ENDING_ORDERS];
+        // The bits of the colours that win if they begin.
         final int[] winners = new int[MOST_ENDING_ORDERS];
         int settledLook;
 
-        Ending(Pond pond, Numbering numbering, Search search) {
+        Ending(Pond pond, Moves moves, Numbering numbering, Search search) {
             this.pond = pond;
+            this.moves = moves;
             this.numbering = numbering;
             this.search = search;
         }
@@ -966,22 +1021,22 @@ public final class FrogsOnRing {
             settledLook = search.looks;
         }
 
-        // Each move goes to a higher level, so an order's moves are settled ahead of it.
+        // Each move leads to a higher level: from the highest down all that it leads to is settled.
         private void sortByLevel() {
             int many = Math.min(search.reached, MOST_ENDING_ORDERS);
-            Arrays.fill(begins, 0);
+            Arrays.fill(levelEnds, 0);
             for (int i = 0; i < many; i++) {
-                begins[levelOf(search.orders[i]) + 1]++;
+                levelEnds[levelOf(search.orders[i])]++;
             }
-            for (int level = 1; level <= LEVELS; level++) {
-                begins[level] += begins[level - 1];
+            for (int level = 1; level < LEVELS; level++) {
+                levelEnds[level] += levelEnds[level - 1];
             }
             for (int i = 0; i < many; i++) {
                 int level = levelOf(search.orders[i]);
-                int place = begins[level];
-                if (place < MOST_ENDING_ORDERS) {
+                levelEnds[level]--;
+                int place = levelEnds[level];
+                if (place >= 0 && place < MOST_ENDING_ORDERS) {
                     sorted[place] = search.orders[i];
-                    begins[level]++;
                 }
             }
         }
@@ -1000,16 +1055,13 @@ public final class FrogsOnRing {
         }
 
         private void settle(int order) {
-            int here = numbering.numberOf(order);
-            if (!isNumber(here)) {
-                return;
-            }
             int most = 0;
             int winning = 0;
+            moves.find(order);
             for (int from = 0; from < pond.size; from++) {
                 int kind = kindAt(order, from);
                 for (int to = 0; to < pond.size; to++) {
-                    if (pond.isMove(order, from, to)) {
+                    if (moves.has(from, to)) {
                         int next = afterMove(order, from, to);
                         most = Math.max(most, mostMovesFrom(next) + 1);
                         if (!wins(next, otherColour(kind))) {
@@ -1018,11 +1070,14 @@ public final class FrogsOnRing {
                     }
                 }
             }
-            mosts[here] = most;
-            winners[here] = winning;
+            int here = numbering.numberOf(order);
+            if (hasPlace(here)) {
+                mosts[here] = most;
+                winners[here] = winning;
+            }
         }
 
-        private boolean isNumber(int number) {
+        private static boolean hasPlace(int number) {
             return number >= 0 && number < MOST_ENDING_ORDERS;
         }
 
@@ -1032,24 +1087,31 @@ public final class FrogsOnRing {
 
         int mostMovesFrom(int order) {
             int number = numbering.numberOf(order);
-            return isNumber(number) ? mosts[number] : 0;
+            return hasPlace(number) ? mosts[number] : 0;
         }
 
         boolean wins(int order, int colour) {
             int number = numbering.numberOf(order);
-            return isNumber(number) && (winners[number] & colour) != 0;
+            return hasPlace(number) && (winners[number] & colour) != 0;
         }
 
         int winningMove(int order, int colour) {
+            moves.find(order);
             for (int from = 0; from < pond.size; from++) {
-                if (kindAt(order, from) != colour) {
-                    continue;
-                }
-                for (int to = 0; to < pond.size; to++) {
-                    if (pond.isMove(order, from, to)
-                        && !wins(afterMove(order, from, to), otherColour(colour))) {
+                if (kindAt(order, from) == colour) {
+                    int to = winningTarget(order, from, colour);
+                    if (to != NONE) {
                         return FROM_WEIGHT * from + to;
                     }
+                }
+            }
+            return NONE;
+        }
+
+        private int winningTarget(int order, int from, int colour) {
+            for (int to = 0; to < pond.size; to++) {
+                if (moves.has(from, to) && !wins(afterMove(order, from, to), otherColour(colour))) {
+                    return to;
                 }
             }
             return NONE;
@@ -1059,62 +1121,63 @@ public final class FrogsOnRing {
     /** CHILDREN: how likely an order is behind some times, and one child's play by a SEED. */
     private static final class Chance {
         final Pond pond;
+        final Moves moves;
         final Numbering numbering;
         final Search search;
+        // How many rows of frogs lead to each order by an even, and by an odd number of times.
         final int[] evens = new int[MOST_ORDERS];
         final int[] odds = new int[MOST_ORDERS];
         int playedOrder;
         int playedMoves;
         int playedSeed;
 
-        Chance(Pond pond, Numbering numbering, Search search) {
+        Chance(Pond pond, Moves moves, Numbering numbering, Search search) {
             this.pond = pond;
+            this.moves = moves;
             this.numbering = numbering;
             this.search = search;
         }
 
-        // Of all rows of so many frogs, how many end at the aim.
         int rowsEndingAt(int aimed, int start, int times) {
             search.lookFrom(start);
-            Arrays.fill(evens, 0);
+            fillFirst(evens, numbering.all, 0);
             int first = numbering.numberOf(start);
             int last = numbering.numberOf(aimed);
-            if (!isNumber(first) || !isNumber(last)) {
+            if (first == NONE || last == NONE) {
                 return 0;
             }
             evens[first] = 1;
             for (int time = 0; time < times; time++) {
-                spread(time);
+                if (time % 2 == 0) {
+                    spread(evens, odds);
+                } else {
+                    spread(odds, evens);
+                }
             }
             return times % 2 == 0 ? evens[last] : odds[last];
         }
 
-        private void spread(int time) {
-            int[] before = time % 2 == 0 ? evens : odds;
-            int[] behind = time % 2 == 0 ? odds : evens;
-            Arrays.fill(behind, 0);
+        private void spread(int[] before, int[] behind) {
+            fillFirst(behind, numbering.all, 0);
             for (int i = 0; i < search.reached && i < MOST_ORDERS; i++) {
                 int order = search.orders[i];
                 int number = numbering.numberOf(order);
-                if (isNumber(number) && before[number] != 0) {
-                    hand(order, before[number], behind);
+                if (number != NONE && before[number] != 0) {
+                    letEachGo(order, before[number], behind);
                 }
             }
         }
 
-        private void hand(int order, int rows, int[] behind) {
+        private void letEachGo(int order, int rows, int[] behind) {
+            moves.find(order);
             for (int stone = 0; stone < pond.size; stone++) {
                 if (kindAt(order, stone) != NOBODY) {
-                    int there = numbering.numberOf(pond.afterLeastMove(order, stone));
-                    if (isNumber(there)) {
+                    int there = numbering.numberOf(moves.afterLeastOf(order, stone));
+                    if (there != NONE) {
                         behind[there] += rows;
                     }
                 }
             }
-        }
-
-        private boolean isNumber(int number) {
-            return number >= 0 && number < MOST_ORDERS;
         }
 
         void play(int start, int times, int seed) {
@@ -1125,11 +1188,11 @@ public final class FrogsOnRing {
             for (int time = 0; time < times && frogs > 0; time++) {
                 playedSeed = nextSeed(playedSeed);
                 int frog = stoneOfFrog(playedOrder, (playedSeed / 65536) % frogs);
-                int next = pond.afterLeastMove(playedOrder, frog);
-                if (next != playedOrder) {
+                moves.find(playedOrder);
+                if (moves.targetsOf(frog) != 0) {
+                    playedOrder = moves.afterLeastOf(playedOrder, frog);
                     playedMoves++;
                 }
-                playedOrder = next;
             }
         }
 
@@ -1147,7 +1210,7 @@ public final class FrogsOnRing {
                     passed++;
                 }
             }
-            return 0;
+            return NONE;
         }
     }
 

@@ -143,6 +143,19 @@ public final class ModelTest {
         }
     }
 
+    private void goBack() {
+        switch (random.nextInt(4)) {
+            case 0:
+                Due.is(name + "image()", real.image(), model.image());
+                break;
+            case 1:
+                Due.is(name + "restore()", real.restore(), model.restore());
+                break;
+            default:
+                Due.is(name + "back()", real.back(), model.back());
+        }
+    }
+
     private void askOne() {
         int a = number(10);
         int b = number(4);
@@ -204,6 +217,8 @@ public final class ModelTest {
                 readAim();
             } else if (draw < 12) {
                 makeMove();
+            } else if (draw < 15) {
+                goBack();
             } else {
                 askOne();
             }
