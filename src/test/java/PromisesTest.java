@@ -731,8 +731,29 @@ public final class PromisesTest {
         Due.is("27 no stones", x.digest(), mix(563, 'z', 0, 0, 0, 0, 0, 0, 1, 0));
     }
 
+    private static void refusedCallsChangeNothing() {
+        FrogsOnRing x = Due.aiming("w:gy.bb", "bb.yg");
+        x.move(1, 2);
+        x.image();
+        Due.write(x, "ro2:gb/");
+        long before = x.digest();
+        long[] answers = {x.letters(127), x.letters(0x6700), x.stones(), x.aim(), x.stone(5, 0), x.stone(0, 3),
+            x.as(-1, 0), x.as(0, 4), x.can(0, 5), x.move(5, 0), x.move(0, 4), x.nth(64), x.reach(3), x.longest(),
+            x.game(0, 0), x.luck(7, 0), x.luck(0, 2), x.child(0, 0, 0), x.child(1, -1, 0), x.child(1, 0, 11),
+            x.alike(), x.kinds(), x.count(8)};
+        for (int i = 0; i < answers.length; i++) {
+            Due.is("refused " + i, answers[i] <= UNKNOWN && answers[i] >= FULL ? 1 : 0, 1);
+        }
+        Due.is("nothing changed", x.digest(), before);
+        Due.is("the image stays", x.restore(), 1);
+        Due.is("the move stays", x.back(), 0);
+        orderIs("as it began", x, "gy.bb");
+        Due.is("the page stays", x.blank(), 7);
+    }
+
     public static void main(String[] args) {
         constants();
+        refusedCallsChangeNothing();
         p1NewObject();
         p2Letters();
         p3Blank();
