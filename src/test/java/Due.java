@@ -2,6 +2,8 @@
 final class Due {
     private static int wrong = 0;
     private static int asked = 0;
+    private static String sentence = "";
+    private static int askedOfIt = 0;
 
     private Due() {
     }
@@ -14,6 +16,18 @@ final class Due {
                 System.out.println(what + " answered " + got + ", due is " + want);
             }
         }
+    }
+
+    /** The sentence of the document that the answers behind it are about. */
+    static void says(String words) {
+        sentence = words;
+        askedOfIt = 0;
+    }
+
+    /** An answer about the sentence told last; a wrong one is named by it and by its number. */
+    static void is(long got, long want) {
+        askedOfIt++;
+        is(sentence + " [" + askedOfIt + "]", got, want);
     }
 
     static void end() {
