@@ -1,6 +1,9 @@
 import java.util.Arrays;
 
-/** Frogs on stones in a ring, a row or a tree: their moves, orders, games and children. README.md says how to use it. */
+/**
+ * Frogs on stones in a ring, a row or a tree: their moves, orders, games and children.
+ * README.md says how to use it.
+ */
 public final class FrogsOnRing {
     public static final int NONE = -1, UNKNOWN = -101, OUTSIDE = -102, STATE = -103, FULL = -104;
 

@@ -94,6 +94,27 @@ public final class OrderEdgesTest {
         toTheAim("r:y..y..", "..y..y", 2, 2, go(0, 5));
     }
 
+    private static void ofTheOrderNow() {
+        Due.says("14, 15, 16: of the ORDER now, whichever is asked first");
+        FrogsOnRing x = Due.aiming("w:g...b", ".g.b.");
+        Due.is(x.by(), go(0, 1));
+        x.move(0, 1);
+        Due.is(x.by(), go(4, 3));
+        x.back();
+        Due.is(x.ways(), 2);
+        x.move(0, 1);
+        Due.is(x.ways(), 1);
+        x.back();
+        Due.is(x.fewest(), 2);
+        x.move(0, 1);
+        Due.is(x.fewest(), 1);
+        x.image();
+        x.move(4, 3);
+        Due.is(x.by(), NONE);
+        x.restore();
+        Due.is(x.by(), go(4, 3));
+    }
+
     // ---- 17
 
     private static void reached(FrogsOnRing x, int orders, int stuck, int greatest) {
@@ -246,6 +267,8 @@ public final class OrderEdgesTest {
         x.move(2, 0);
         Due.is(x.game(0, 0), 1);
         Due.is(x.game(0, 1), go(1, 2));
+        x.child(9, 1, 0);
+        Due.is(x.game(0, 1), go(1, 2));
         x.back();
         x.back();
         Due.is(x.game(0, 0), 1);
@@ -256,6 +279,7 @@ public final class OrderEdgesTest {
         itCant();
         itIsTheAim();
         fewestAndWays();
+        ofTheOrderNow();
         reachIsRefused();
         reach();
         notEnding();

@@ -362,6 +362,19 @@ public final class TextEdgesTest {
             Due.is(x.stones(), STATE);
             Due.is(x.count(7), 2);
         }
+        Due.says("5: the same letters in another form are other STONES");
+        FrogsOnRing same = Due.stones("w:g..");
+        for (int time = 0; time < 3; time++) {
+            Due.is(same.reach(1), 1);
+            Due.write(same, "r:g..");
+            same.stones();
+            Due.is(same.reach(1), 0);
+            Due.write(same, "t:g../00");
+            same.stones();
+            Due.is(same.reach(1), 2);
+            Due.write(same, "w:g..");
+            same.stones();
+        }
         Due.says("5: OTHER and TWO of others are gone, too");
         FrogsOnRing x = Due.stones("wo2:gbb.gg.");
         Due.is(x.can(0, 3), 1);
@@ -381,7 +394,7 @@ public final class TextEdgesTest {
 
         Due.says("6: STATE: it is none (as many letters as STONES, as many of each colour as there are)");
         String[] wrong = {"", "g", "gy.", "gy.b.", "gy.bb", "gyb", "gy..", "gyyb", "ggyb", "g..b", "gg.b", "yy.b", "gy.g",
-            "bb.y", "gy.x", "gy b", "gy.B", "w:gy", "w:gy.b", "gy.b/"};
+            "bb.y", "gy.x", "gy b", "gy.B", "xgyb", "gxyb", "gybx", "w:gy", "w:gy.b", "gy.b/"};
         for (String text : wrong) {
             FrogsOnRing z = wellUsed();
             Due.write(z, text);
