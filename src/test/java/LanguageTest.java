@@ -11,6 +11,7 @@ import java.util.Arrays;
 import java.util.IdentityHashMap;
 import java.util.List;
 import java.util.Map;
+import java.util.TreeMap;
 import java.util.TreeSet;
 import java.util.regex.Matcher;
 import java.util.regex.Pattern;
@@ -111,6 +112,76 @@ public final class LanguageTest {
         say("methods were found", methods > 80);
     }
 
+    private static List<Class<?>> classes() {
+        List<Class<?>> classes = new ArrayList<>();
+        classes.add(FrogsOnRing.class);
+        classes.addAll(Arrays.asList(FrogsOnRing.class.getDeclaredClasses()));
+        return classes;
+    }
+
+    private static void fields() {
+        say("at most twelve classes", classes().size() <= 12);
+        for (Class<?> type : classes()) {
+            int own = 0;
+            for (Field field : type.getDeclaredFields()) {
+                if (Modifier.isStatic(field.getModifiers())) {
+                    boolean constant = field.getType() == int.class && Modifier.isFinal(field.getModifiers());
+                    say(field + " is a constant", constant);
+                } else {
+                    own++;
+                }
+            }
+            say(type + " has at most twenty fields", own <= 20);
+        }
+    }
+
+    private static void library(String code) {
+        List<String> used = Arrays.asList("System.arraycopy", "Arrays.fill", "Math.min", "Math.max", "Integer.bitCount");
+        Matcher matcher = Pattern.compile("\\b(System|Arrays|Math|Integer|Long|String|Character)\\.\\w+").matcher(
+            code.replaceAll("import [^;]+;", ""));
+        while (matcher.find()) {
+            say("of the library: " + matcher.group(), used.contains(matcher.group()));
+        }
+    }
+
+    // By their names alone: methods of one name count as one, which can only make the calls deeper.
+    private static Map<String, TreeSet<String>> callsByName(List<String> lines) {
+        Map<String, TreeSet<String>> calls = new TreeMap<>();
+        Pattern head = Pattern.compile("(?: {4}| {8})(?:public |private |static )*\\w+(?:\\[])? (\\w+)\\(.*\\) \\{");
+        String name = "";
+        for (String line : lines) {
+            Matcher start = head.matcher(line);
+            if (start.matches() && !line.contains(" if ")) {
+                name = start.group(1);
+                calls.putIfAbsent(name, new TreeSet<>());
+                continue;
+            }
+            Matcher call = Pattern.compile("(?<!new )\\b([a-z]\\w*)\\(").matcher(line);
+            while (!name.isEmpty() && call.find()) {
+                calls.get(name).add(call.group(1));
+            }
+        }
+        return calls;
+    }
+
+    private static int depthOf(String name, Map<String, TreeSet<String>> calls, int room) {
+        int deepest = 0;
+        if (room > 0) {
+            for (String called : calls.getOrDefault(name, new TreeSet<>())) {
+                deepest = calls.containsKey(called) ? Math.max(deepest, depthOf(called, calls, room - 1)) : deepest;
+            }
+        }
+        return deepest + 1;
+    }
+
+    private static void depths(List<String> lines) {
+        Map<String, TreeSet<String>> calls = callsByName(lines);
+        say("calls were found", depthOf("digest", calls, 12) > 4);
+        for (String name : calls.keySet()) {
+            say(name + " calls at most eight deep, and never itself", depthOf(name, calls, 12) <= 8);
+        }
+    }
+
     private static long roomOf(Object thing, Map<Object, Boolean> seen) throws IllegalAccessException {
         if (thing == null || seen.put(thing, true) != null) {
             return 0;
@@ -139,6 +210,9 @@ public final class LanguageTest {
         words(code);
         makings(lines);
         lengths(lines);
+        fields();
+        library(code);
+        depths(lines);
         long room = roomOf(new FrogsOnRing(), new IdentityHashMap<>());
         say("room of an object: " + room, room < 60000);
         Due.end();
